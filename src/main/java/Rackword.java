@@ -775,7 +775,9 @@ public final class Rackword {
         }
 
         private void startRound(int seconds) {
-            Arrays.fill(clock, seconds);
+            for (int player = 0; player < count; player++) {
+                set(clock, player, seconds);
+            }
             Arrays.fill(melded, 0);
             Arrays.fill(fresh, 0);
             Arrays.fill(hasPassed, 0);
