@@ -1326,6 +1326,9 @@ public final class Rackword {
         // A step: bits 0 to 3 the next state, 8 whether there are two ways, 16 and 17 how many runs begin.
         private final int[] apart = new int[256];
         private final int[] alike = new int[256];
+        // The one step that begins the fewest runs. A run that begins where another one ends could go on from
+        // it as well, so to know whether there is a cut at all, no other step is needed.
+        private final int[] joined = new int[256];
         // For how many tiles there may be of the next three numbers, the states whose runs can grow full.
         private final int[] hopeful = new int[27];
 
@@ -1340,6 +1343,9 @@ public final class Rackword {
             for (int i = 0; i < alike.length; i++) {
                 int step = apart[i];
                 alike[i] = (step & 15) == APART ? step - APART + pair(least, least) : step;
+            }
+            for (int i = 0; i < joined.length; i += 4) {
+                joined[i] = fewestBegun(alike[i], fewestBegun(alike[i + 1], alike[i + 2]));
             }
             for (int i = 0; i < hopeful.length; i++) {
                 hopeful[i] = statesWithin(i / 9, i / 3 % 3, i % 3);
@@ -1385,6 +1391,11 @@ public final class Rackword {
                     return;
                 }
             }
+        }
+
+        private static int fewestBegun(int step, int other) {
+            boolean isFewer = other == 0 || step >> 16 < other >> 16;
+            return step != 0 && isFewer ? step : other;
         }
 
         private int statesWithin(int one, int two, int three) {
@@ -1485,7 +1496,7 @@ public final class Rackword {
         private int go(Rules rules, int newMode, int last) {
             steps = rules.least == 4 ? four : three;
             mode = newMode;
-            table = mode == COUNT ? steps.apart : steps.alike;
+            table = mode == COUNT ? steps.apart : mode == STATES ? steps.alike : steps.joined;
             highest = rules.highest;
             here.size = 1;
             here.code[0] = 0;
@@ -1636,24 +1647,24 @@ public final class Rackword {
                 if (there.size + SPREAD > there.code.length) {
                     there.grow();
                 }
-                for (int i0 = at0; i0 < at0 + 3; i0++) {
+                for (int i0 = at0; i0 < at0 + 3 && table[i0] != 0; i0++) {
                     int step0 = table[i0];
-                    if (step0 == 0 || (open[0] >> (step0 & 15) & 1) == 0) {
+                    if ((open[0] >> (step0 & 15) & 1) == 0) {
                         continue;
                     }
-                    for (int i1 = at1; i1 < at1 + 3; i1++) {
+                    for (int i1 = at1; i1 < at1 + 3 && table[i1] != 0; i1++) {
                         int step1 = table[i1];
-                        if (step1 == 0 || (open[1] >> (step1 & 15) & 1) == 0) {
+                        if ((open[1] >> (step1 & 15) & 1) == 0) {
                             continue;
                         }
-                        for (int i2 = at2; i2 < at2 + 3; i2++) {
+                        for (int i2 = at2; i2 < at2 + 3 && table[i2] != 0; i2++) {
                             int step2 = table[i2];
-                            if (step2 == 0 || (open[2] >> (step2 & 15) & 1) == 0) {
+                            if ((open[2] >> (step2 & 15) & 1) == 0) {
                                 continue;
                             }
-                            for (int i3 = at3; i3 < at3 + 3; i3++) {
+                            for (int i3 = at3; i3 < at3 + 3 && table[i3] != 0; i3++) {
                                 int step3 = table[i3];
-                                if (step3 != 0 && (open[3] >> (step3 & 15) & 1) == 1) {
+                                if ((open[3] >> (step3 & 15) & 1) == 1) {
                                     int next = step0 & 15 | (step1 & 15) << 4 | (step2 & 15) << 8 | (step3 & 15) << 12;
                                     put(from, way, next, step0 + step1 + step2 + step3);
                                 }

@@ -9,15 +9,10 @@ import java.util.Set;
 
 /**
  * The document once more, written as slowly and as plainly as can be, for the tests to compare with.
- * Cuts are searched set by set, plans by all choices of tiles.
+ * Cuts are searched set by set; plans by all choices of tiles, and where these are too many, set by set.
  */
 final class Model {
     static final int NONE = -1, JOKER = 52;
-
-    /** Thrown where a plan has too many choices to be searched here; not an answer of the document. */
-    static final class TooMany extends RuntimeException {
-        private static final long serialVersionUID = 1;
-    }
 
     static final class Seat {
         int team, program, points, clock, fresh, won;
@@ -36,11 +31,10 @@ final class Model {
     List<int[]> done = new ArrayList<>();
     List<int[]> record = new ArrayList<>();
     StringBuilder slate = new StringBuilder();
-    /** A plan that is taken as it is where there are too many choices. */
-    List<Integer> hint;
     Map<String, long[]> cutMemo = new HashMap<>();
     Map<String, Boolean> wholeMemo = new HashMap<>();
     List<int[]> sets = setsOf();
+    List<List<int[]>> setsWith = setsByKind();
 
     // ---- sets and cuts
 
@@ -55,6 +49,19 @@ final class Model {
         }
         for (int number = 1; number <= highest; number++) {
             addGroups(all, number);
+        }
+        return all;
+    }
+
+    /** For each kind the sets that have it. */
+    List<List<int[]>> setsByKind() {
+        List<List<int[]>> all = new ArrayList<>();
+        for (int kind = 0; kind < 52; kind++) {
+            List<int[]> some = new ArrayList<>();
+            for (int[] set : sets) {
+                if (contains(set, kind)) some.add(set);
+            }
+            all.add(some);
         }
         return all;
     }
@@ -115,8 +122,8 @@ final class Model {
         Boolean known = wholeMemo.get(key);
         if (known != null) return known;
         boolean answer = false;
-        for (int[] set : sets) {
-            if (!answer && contains(set, kind) && has(left, set)) answer = whole(without(left, set));
+        for (int[] set : setsWith.get(kind)) {
+            if (!answer && has(left, set)) answer = whole(without(left, set));
         }
         if (wholeMemo.size() > 3000000) wholeMemo.clear();
         wholeMemo.put(key, answer);
@@ -200,12 +207,68 @@ final class Model {
             most[kind] = Math.min(inRack(seat, kind), 2 - table[kind]);
             choices *= most[kind] + 1;
         }
-        if (choices > 6000) throw new TooMany();
+        int[] bySets = planBySets(seat, seat.melded ? table : new int[52], most);
+        if (choices > 3000) return bySets;
         bestMany = null;
         bestRank = null;
         planMany = new int[52];
         choose(seat, most, table, 0);
+        if (!Arrays.equals(bestMany, bySets)) throw new IllegalStateException("two searches, two plans");
         return bestMany;
+    }
+
+    Map<String, int[]> planMemo = new HashMap<>();
+    boolean planMelded;
+
+    int[] planBySets(Seat seat, int[] must, int[] may) {
+        planMemo.clear();
+        planMelded = seat.melded;
+        int[] rank = bestFrom(must, may);
+        return rank == null ? null : Arrays.copyOfRange(rank, 2, 54);
+    }
+
+    /** The best rank of all ways to cut what must be cut and some of what may be; null if there is none. */
+    int[] bestFrom(int[] must, int[] may) {
+        int[] all = new int[52];
+        for (int i = 0; i < 52; i++) all[i] = must[i] + may[i];
+        int kind = lowestLeft(all);
+        if (kind == NONE) return new int[54];
+        String key = key(must) + key(may);
+        if (planMemo.containsKey(key)) return planMemo.get(key);
+        int[] best = null;
+        if (must[kind] == 0) {
+            int[] less = may.clone();
+            less[kind] = 0;
+            best = bestFrom(must, less);
+        }
+        for (int[] set : setsWith.get(kind)) {
+            if (has(all, set)) best = better(best, bestWith(set, must, may));
+        }
+        planMemo.put(key, best);
+        return best;
+    }
+
+    int[] bestWith(int[] set, int[] must, int[] may) {
+        int[] mustLeft = must.clone(), mayLeft = may.clone(), rank = new int[54];
+        for (int kind : set) {
+            if (mustLeft[kind] > 0) {
+                mustLeft[kind]--;
+            } else {
+                mayLeft[kind]--;
+                rank[planMelded ? 0 : 1]++;
+                rank[planMelded ? 1 : 0] += worthOf(kind);
+                rank[2 + kind]++;
+            }
+        }
+        int[] rest = bestFrom(mustLeft, mayLeft);
+        if (rest == null) return null;
+        for (int i = 0; i < 54; i++) rank[i] += rest[i];
+        return rank;
+    }
+
+    static int[] better(int[] one, int[] other) {
+        if (one == null || other == null) return one == null ? other : one;
+        return Arrays.compare(one, other) >= 0 ? one : other;
     }
 
     void choose(Seat seat, int[] most, int[] table, int kind) {
@@ -237,13 +300,7 @@ final class Model {
 
     List<Integer> planTiles(int player) {
         Seat seat = seats.get(player);
-        int[] many;
-        try {
-            many = planOf(seat);
-        } catch (TooMany e) {
-            if (hint == null) throw e;
-            return hint;
-        }
+        int[] many = planOf(seat);
         if (many == null) return null;
         List<Integer> plan = new ArrayList<>();
         for (int kind = 0; kind < 52; kind++) {
@@ -289,6 +346,7 @@ final class Model {
         cutMemo.clear();
         wholeMemo.clear();
         sets = setsOf();
+        setsWith = setsByKind();
         return 8 * highest + jokers;
     }
 
