@@ -1717,8 +1717,9 @@ public final class Rackword {
                 firsts[place] |= first;
             } else if (mode == COUNT) {
                 firsts[place] = (firsts[place] + first) % MODULUS;
-                long fewest = Math.min(seconds[place] >>> 32, second >>> 32);
-                long most = Math.max((int) seconds[place], (int) second);
+                long before = seconds[place];
+                long fewest = before >>> 32 < second >>> 32 ? before >>> 32 : second >>> 32;
+                long most = (int) before > (int) second ? (int) before : (int) second;
                 seconds[place] = fewest << 32 | most;
             } else if (mode == PLAN
                     && (first > firsts[place] || first == firsts[place] && second > seconds[place])) {

@@ -139,9 +139,10 @@ final class Model {
         long[] known = cutMemo.get(key);
         if (known != null) return known;
         long[] answer = {0, NONE, NONE};
-        for (int i = start; i < sets.size(); i++) {
-            int[] set = sets.get(i);
-            if (!contains(set, kind) || !has(left, set)) continue;
+        List<int[]> some = setsWith.get(kind);
+        for (int i = start; i < some.size(); i++) {
+            int[] set = some.get(i);
+            if (!has(left, set)) continue;
             long[] rest = cutsOf(without(left, set), kind, i);
             if (rest[1] == NONE) continue;
             answer[0] = (answer[0] + rest[0]) % 1000000007L;

@@ -287,6 +287,7 @@ public final class ModelTest {
             int what = i;
             same("sum(" + what + ")", () -> real.sum(what), () -> model.sum(what));
         }
+        everythingOfCuts();
         for (int i = 0; i < model.seats.size(); i++) everythingOf(i);
         for (int i = 0; i < 52; i++) {
             int kind = i;
@@ -300,6 +301,18 @@ public final class ModelTest {
                 int place = i, what = j;
                 same("entry(" + place + ", " + what + ")", () -> real.entry(place, what), () -> model.entry(place, what));
             }
+        }
+    }
+
+    private void everythingOfCuts() {
+        for (int i = 0; i <= 2; i++) {
+            int what = i;
+            same("cuts(" + what + ")", () -> real.cuts(what), () -> model.cuts(what));
+        }
+        same("cutsAnew()", () -> real.cutsAnew(), () -> model.cutsAnew());
+        for (int i = 1; i <= model.highest && model.sum(2) < 30; i++) {
+            int number = i;
+            same("states(" + number + ")", () -> real.states(number), () -> model.states(number));
         }
     }
 
@@ -402,11 +415,33 @@ public final class ModelTest {
         }
     }
 
+    /** Compares the plans of all players again and again, of those who have not melded above all. */
+    private void goPlans(long seed) {
+        real = new Rackword();
+        model = new Model();
+        random = new Random(seed);
+        calls.clear();
+        calls.add("new Rackword(), plans, seed " + seed);
+        int highest = pick(5, 13), least = pick(3, 4), meld = pick(20, 60);
+        same("rules(" + highest + ", " + least + ", 2, " + meld + ", 9)",
+            () -> real.rules(highest, least, 2, meld, 9), () -> model.rules(highest, least, 2, meld, 9));
+        for (int i = 0; i < 3; i++) same("player(0, 1)", () -> real.player(0, 1), () -> model.player(0, 1));
+        deal();
+        for (int i = 0; i < 12 && model.turn != Model.NONE; i++) {
+            for (int player = 0; player < 3; player++) comparePlan(player);
+            if (random.nextInt(3) == 0) layAny();
+            if (random.nextInt(3) == 0) same("draw()", () -> real.draw(), () -> model.draw());
+            else auto();
+        }
+        everythingOfCuts();
+    }
+
     public static void main(String[] args) {
-        int runs = args.length > 1 ? Integer.parseInt(args[1]) : 120;
+        int runs = args.length > 1 ? Integer.parseInt(args[1]) : 48;
         long from = args.length > 2 ? Long.parseLong(args[2]) : 1;
         for (long seed = from; seed < from + runs && wrong < 3; seed++) {
             try {
+                new ModelTest().goPlans(seed);
                 if (seed % 6 == 0) new ModelTest().goPrograms(seed);
                 else new ModelTest().go(seed, seed % 5 == 0 ? 13 : seed % 2 == 0 ? 5 : 7, 400);
             } catch (AssertionError e) {

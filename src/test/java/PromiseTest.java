@@ -122,6 +122,14 @@ public final class PromiseTest {
         Rackword y = dealt(0, 0);
         due(2, "rules() in a round", () -> y.rules(5, 3, 0, 0, 1), STATE);
         due(2, "bad rules() in a round", () -> y.rules(5, 3, 0, 0, 0), ARGUMENT);
+        Rackword w = playedOut();
+        due(2, "some are left in the pool", () -> bit(w.sum(0) == -1 && w.sum(1) > 0), 1);
+        w.rules(13, 3, 3, 5, 2);
+        for (int i = 0; i <= 52; i++) {
+            int kind = i;
+            due(2, "poolIs(" + i + ")", () -> w.poolIs(kind), 0);
+        }
+        sums(2, w, 1, 0, 0, 0);
         Rackword z = emptiedByDrawing();
         due(2, "claim", () -> z.claim(1, 4, 2) + z.claim(2, 4, 2), 0);
         due(2, "rules() behind a round", () -> z.rules(13, 3, 0, 0, 1), 104);
@@ -239,6 +247,7 @@ public final class PromiseTest {
 
     private static void swapAndBack() {
         Rackword x = melded(0, 0);
+        due(7, "swap(2) without a tile of it", () -> x.swap(2), STATE);
         x.draw();
         due(7, "swap(-1)", () -> x.swap(-1), ARGUMENT);
         due(7, "swap(0), no joker as it", () -> x.swap(0), STATE);
@@ -291,17 +300,27 @@ public final class PromiseTest {
         y.deal(623, 14, 20);
         playAll(y, "la1la2ja3lc1lc2lc3");
         due(9, "a meld of just 9", () -> y.end(), 1);
+        Rackword z = new Rackword();
+        z.rules(5, 3, 3, 10, 1);
+        z.player(0, 0);
+        z.player(0, 0);
+        z.deal(623, 14, 20);
+        playAll(z, "la1la2ja3lc1lc2lc3");
+        due(9, "a meld of 9 and a joker where it is 10", () -> z.end(), STATE);
         due(9, "a round is won by laying", () -> playedOut().sum(0), -1);
     }
 
-    /** A round that GREEDY players play until one has laid all. */
+    /** A round that GREEDY players play until one has laid all, while there are some in the pool. */
     private static Rackword playedOut() {
         Rackword x = new Rackword();
-        x.player(0, 1);
-        x.player(1, 1);
-        x.player(1, 1);
-        x.deal(4242, 14, 500);
-        for (int i = 0; i < 300 && x.sum(0) != Rackword.NONE; i++) x.auto();
+        for (int seed = 1; seed < 100 && x.sum(1) == 0; seed++) {
+            x = new Rackword();
+            x.player(0, 1);
+            x.player(1, 1);
+            x.player(1, 1);
+            x.deal(seed, 14, 500);
+            for (int i = 0; i < 300 && x.sum(0) != Rackword.NONE; i++) x.auto();
+        }
         return x;
     }
 
@@ -352,6 +371,24 @@ public final class PromiseTest {
         if (winner > 0) due(30, "down the ladder", () -> x.playerIs(winner - 1, 7), winner);
         due(31, "a team", () -> x.team(winner % 2) + x.team(1 - winner % 2), 0);
         due(10, "draw() behind it", () -> x.draw(), STATE);
+    }
+
+    /** Of several with the least worth the lowest one wins. */
+    private static void tieOfRacks() {
+        for (int seed = 0; seed < 4000; seed++) {
+            Rackword x = new Rackword();
+            x.rules(5, 3, 0, 0, 1);
+            for (int i = 0; i < 4; i++) x.player(0, 0);
+            x.deal(seed, 10, 9);
+            int least = Math.min(Math.min(x.playerIs(0, 6), x.playerIs(1, 6)), Math.min(x.playerIs(2, 6), x.playerIs(3, 6)));
+            if (x.playerIs(1, 6) != least || x.playerIs(3, 6) != least || x.playerIs(0, 6) == least) continue;
+            for (int i = 0; i < 4; i++) x.draw();
+            due(10, "of several the lowest one", () -> x.sum(9), 1);
+            due(30, "the other one loses", () -> x.playerIs(3, 2), -least);
+            due(30, "up the ladder", () -> x.playerIs(1, 7) * 10 + x.playerIs(0, 7), 1);
+            return;
+        }
+        due(10, "a seed with a tie", () -> 0, 1);
     }
 
     private static void draw() {
@@ -579,6 +616,7 @@ public final class PromiseTest {
         Rackword y = dealt(0, 0);
         // a2 b2 c2 and c3 c4 c5, 18; c1 to c5 were 15
         int[] plan = {1, 14, 27, 28, 29, 30, -1};
+        due(21, "plan() ahead of best()", () -> dealt(0, 0).plan(0, 5), 30);
         due(20, "best() of who has not melded", () -> y.best(0, 1), 18);
         due(20, "its tiles", () -> y.best(0, 0), 6);
         for (int i = 0; i < plan.length; i++) {
@@ -719,6 +757,7 @@ public final class PromiseTest {
         end();
         roundWon();
         roundEndedByDrawing();
+        tieOfRacks();
         draw();
         tick();
         auto();
