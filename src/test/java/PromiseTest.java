@@ -564,6 +564,37 @@ public final class PromiseTest {
         x.lay(28);
         due(18, "cutsAnew() of 15", () -> x.cutsAnew(), STATE);
         longRun();
+        manyOfOneNumber();
+    }
+
+    /** One of a colour and two of the three others: a group of four and one of three, and no other cut. */
+    private static void manyOfOneNumber() {
+        int found = 0;
+        for (int seed = 0; seed < 65536 && found < 2; seed++) {
+            Rackword x = new Rackword();
+            x.rules(5, 3, 3, 0, 1);
+            x.player(0, 0);
+            x.player(0, 0);
+            x.deal(seed, 14, 9);
+            int[] kinds = {0, 13, 13, 26, 26, 39, 39};
+            int lacking = 0;
+            for (int colour = 0; colour < 4; colour++) {
+                lacking += Math.max(0, (colour == 0 ? 1 : 2) - x.rackIs(0, 13 * colour));
+            }
+            if (lacking > x.rackIs(0, 52)) continue;
+            found++;
+            for (int kind : kinds) {
+                if (x.rackIs(0, kind) > 0) x.lay(kind);
+                else x.joker(kind);
+            }
+            due(16, "isWhole() of seven of one number", () -> bit(x.isWhole()), 1);
+            due(17, "cuts(0) of seven of one number", () -> x.cuts(0), 1);
+            due(17, "cuts(1) of seven of one number", () -> x.cuts(1), 2);
+            due(17, "cuts(2) of seven of one number", () -> x.cuts(2), 2);
+            due(18, "cutsAnew() of seven of one number", () -> x.cutsAnew(), 1);
+        }
+        int seeds = found;
+        due(17, "seeds with seven of one number", () -> seeds, 2);
     }
 
     /** A run of 7 is cut in as many ways as 7 is a row of numbers from 3 on: 7, 3 4, 4 3. */
