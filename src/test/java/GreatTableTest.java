@@ -39,6 +39,8 @@ public final class GreatTableTest {
         for (int number = 7; number <= 13; number++) {
             due("states(" + number + ") with " + least, x.states(number), statesFarOn(least));
         }
+        // 211460957645101 with 3, 202760011069 with 4: found by another program, in exact numbers, then taken modulo
+        due("cuts(0)", x.cuts(0), least == 3 ? 956164881 : 760009655);
         // two runs of 13 of each colour
         due("cuts(1)", x.cuts(1), 8);
         // 32 sets of three and two of four

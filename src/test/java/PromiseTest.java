@@ -131,11 +131,12 @@ public final class PromiseTest {
         }
         sums(2, w, 1, 0, 0, 0);
         Rackword z = emptiedByDrawing();
+        due(2, "replayed", () -> bit(z.isReplayed()), 1);
         due(2, "claim", () -> z.claim(1, 4, 2) + z.claim(2, 4, 2), 0);
         due(2, "rules() behind a round", () -> z.rules(13, 3, 0, 0, 1), 104);
         sums(2, z, 0, -1, 0, 0, 0, 0, 0, 4, 0, 1);
+        due(2, "replayed, though there was a round", () -> bit(z.isReplayed()), 1);
         due(2, "rack emptied", () -> z.playerIs(0, 5), 0);
-        due(2, "replayed", () -> bit(z.isReplayed()), 1);
         due(2, "claims stay", () -> z.copies(), 1L << 4);
     }
 
@@ -256,7 +257,11 @@ public final class PromiseTest {
         due(7, "tableIs(2)", () -> x.tableIs(2, false) * 10 + x.tableIs(2, true), 10);
         sums(7, x, 2, 9, 0, 1, 1);
         due(9, "end() with a free joker", () -> x.end(), STATE);
+        due(17, "cuts(0) ahead of the free joker", () -> x.cuts(0), 2);
+        due(22, "alone(4) ahead of it", () -> bit(x.alone(4)), 0);
         due(6, "the free joker as a4", () -> x.joker(3), 1);
+        due(17, "cuts(0) with it: runs alone", () -> x.cuts(0), 1);
+        due(22, "alone(4) with it", () -> bit(x.alone(4)), 1);
         due(6, "his own is still there", () -> x.rackIs(1, 52), 1);
         due(8, "back()", () -> x.back(), 1);
         sums(8, x, 2, 9, 0, 1, 1);
@@ -513,7 +518,7 @@ public final class PromiseTest {
         sums(13, x, 10, 40);
         due(14, "wipe()", () -> x.wipe(), 40);
         due(14, "wipe() again", () -> x.wipe(), 0);
-        for (String bad : new String[] {"", "x", "l", "la", "l1", "le", "la0", "la01", "la6", "la14", "la100", "la1a", "a1",
+        for (String bad : new String[] {"", "x", "l", "la", "l1", "le", "la0", "la01", "la6", "la10", "la14", "la100", "la1a", "a1",
             "lea1", "e1", "la1le1", "t2", "la19"}) {
             due(15, "play() of " + bad, () -> playAll(x, bad), ARGUMENT);
             sums(15, x, 10, bad.length());
@@ -528,6 +533,7 @@ public final class PromiseTest {
         due(15, "play() without a round", () -> playAll(z, "w"), STATE);
         sums(15, z, 10, 1);
         due(15, "two digits", () -> playAll(z, "ld13"), STATE);
+        due(15, "a 0 behind a 1", () -> playAll(z, "ld10"), STATE);
         due(15, "kind 14 of 13", () -> playAll(z, "ld14"), ARGUMENT);
         Rackword y = emptiedByDrawing();
         y.rules(5, 3, 0, 0, 1);
@@ -565,6 +571,28 @@ public final class PromiseTest {
         due(18, "cutsAnew() of 15", () -> x.cutsAnew(), STATE);
         longRun();
         manyOfOneNumber();
+        threeAtTheHighest();
+    }
+
+    /** 11 12 13 of a colour are a run, 12 13 and the 1 of the next colour are none. */
+    private static void threeAtTheHighest() {
+        int found = 0;
+        for (int seed = 0; seed < 65536 && found < 20; seed++) {
+            Rackword x = new Rackword();
+            x.player(0, 0);
+            x.player(0, 0);
+            x.deal(seed, 14, 9);
+            int first = found % 2 == 0 ? 10 : 11;
+            if (x.rackIs(0, first) * x.rackIs(0, first + 1) * x.rackIs(0, first + 2) == 0) continue;
+            found++;
+            for (int i = 0; i < 3; i++) x.lay(first + i);
+            int want = first == 10 ? 1 : 0;
+            due(16, "isWhole() with 12 13", () -> bit(x.isWhole()), want);
+            due(17, "cuts(0) with 12 13", () -> x.cuts(0), want);
+            due(18, "cutsAnew() with 12 13", () -> x.cutsAnew(), want);
+        }
+        int seeds = found;
+        due(18, "seeds with 12 13", () -> seeds, 20);
     }
 
     /** One of a colour and two of the three others: a group of four and one of three, and no other cut. */
