@@ -14,6 +14,13 @@ import java.util.Set;
 final class Model {
     static final int NONE = -1, JOKER = 52;
 
+    /** Thrown where a table is too large for the searches here; the run ends there, without an answer. */
+    static final class TooLarge extends Error {
+        private static final long serialVersionUID = 1;
+    }
+
+    static final int MEMO_MOST = 60000;
+
     static final class Seat {
         int team, program, points, clock, fresh, won;
         boolean melded, hasPassed;
@@ -136,6 +143,7 @@ final class Model {
         if (kind == NONE) return new long[] {1, 0, 0};
         int start = kind == before ? from : 0;
         String key = key(left) + start;
+        if (before == NONE) cutMemo.clear();
         long[] known = cutMemo.get(key);
         if (known != null) return known;
         long[] answer = {0, NONE, NONE};
@@ -149,6 +157,7 @@ final class Model {
             if (answer[1] == NONE || rest[1] + 1 < answer[1]) answer[1] = rest[1] + 1;
             if (rest[2] + 1 > answer[2]) answer[2] = rest[2] + 1;
         }
+        if (cutMemo.size() > MEMO_MOST) throw new TooLarge();
         cutMemo.put(key, answer);
         return answer;
     }
@@ -245,6 +254,7 @@ final class Model {
         for (int[] set : setsWith.get(kind)) {
             if (has(all, set)) best = better(best, bestWith(set, must, may));
         }
+        if (planMemo.size() > MEMO_MOST) throw new TooLarge();
         planMemo.put(key, best);
         return best;
     }

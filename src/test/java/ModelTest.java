@@ -11,6 +11,7 @@ public final class ModelTest {
     private static int wrong = 0;
     private static long compared = 0;
     private static long plans = 0;
+    private static int cutShort = 0;
 
     private interface Call {
         long answer();
@@ -436,19 +437,25 @@ public final class ModelTest {
         everythingOfCuts();
     }
 
+    private static void go(int kind, long seed) {
+        try {
+            if (kind == 0) new ModelTest().goPlans(seed);
+            else if (kind == 1 && seed % 3 == 0) new ModelTest().goPrograms(seed);
+            else if (kind == 2) new ModelTest().go(seed, seed % 5 == 0 ? 13 : seed % 2 == 0 ? 5 : 7, 400);
+        } catch (Model.TooLarge e) {
+            cutShort++;
+        } catch (AssertionError e) {
+            System.out.println("in the run of seed " + seed);
+        }
+    }
+
     public static void main(String[] args) {
-        int runs = args.length > 1 ? Integer.parseInt(args[1]) : 48;
+        int runs = args.length > 1 ? Integer.parseInt(args[1]) : 30;
         long from = args.length > 2 ? Long.parseLong(args[2]) : 1;
         for (long seed = from; seed < from + runs && wrong < 3; seed++) {
-            try {
-                new ModelTest().goPlans(seed);
-                if (seed % 6 == 0) new ModelTest().goPrograms(seed);
-                else new ModelTest().go(seed, seed % 5 == 0 ? 13 : seed % 2 == 0 ? 5 : 7, 400);
-            } catch (AssertionError e) {
-                System.out.println("in the run of seed " + seed);
-            }
+            for (int kind = 0; kind < 3; kind++) go(kind, seed);
         }
-        System.out.println(compared + " answers compared, " + plans + " plans, " + wrong + " wrong");
+        System.out.println(compared + " answers compared, " + plans + " plans, " + cutShort + " runs cut short, " + wrong + " wrong");
         if (wrong > 0) System.exit(1);
     }
 }
