@@ -20,6 +20,8 @@ final class Model {
     }
 
     static final int MEMO_MOST = 60000;
+    static final int WHOLE_MOST = 1500000;
+    static final int CHOOSE_MOST = 400000;
 
     static final class Seat {
         int team, program, points, clock, fresh, won;
@@ -40,6 +42,7 @@ final class Model {
     StringBuilder slate = new StringBuilder();
     Map<String, long[]> cutMemo = new HashMap<>();
     Map<String, Boolean> wholeMemo = new HashMap<>();
+    int wholeLimit;
     List<int[]> sets = setsOf();
     List<List<int[]>> setsWith = setsByKind();
 
@@ -123,6 +126,17 @@ final class Model {
     }
 
     boolean whole(int[] left) {
+        startSearch(WHOLE_MOST);
+        return isCut(left);
+    }
+
+    /** One question may keep so many answers more before its search is given up. */
+    void startSearch(int most) {
+        if (wholeMemo.size() > WHOLE_MOST) wholeMemo.clear();
+        wholeLimit = wholeMemo.size() + most;
+    }
+
+    boolean isCut(int[] left) {
         int kind = lowestLeft(left);
         if (kind == NONE) return true;
         String key = key(left);
@@ -130,9 +144,10 @@ final class Model {
         if (known != null) return known;
         boolean answer = false;
         for (int[] set : setsWith.get(kind)) {
-            if (!answer && has(left, set)) answer = whole(without(left, set));
+            if (!answer && has(left, set)) answer = isCut(without(left, set));
         }
-        if (wholeMemo.size() > 3000000) wholeMemo.clear();
+        // to forget all and go on would search the same again without end
+        if (wholeMemo.size() > wholeLimit) throw new TooLarge();
         wholeMemo.put(key, answer);
         return answer;
     }
@@ -222,7 +237,12 @@ final class Model {
         bestMany = null;
         bestRank = null;
         planMany = new int[52];
-        choose(seat, most, table, 0);
+        startSearch(CHOOSE_MOST);
+        try {
+            choose(seat, most, table, 0);
+        } catch (TooLarge e) {
+            return bySets;
+        }
         if (!Arrays.equals(bestMany, bySets)) throw new IllegalStateException("two searches, two plans");
         return bestMany;
     }
@@ -303,7 +323,7 @@ final class Model {
         rank[1] = seat.melded ? worth : size;
         System.arraycopy(planMany, 0, rank, 2, 52);
         if (bestRank != null && Arrays.compare(rank, bestRank) <= 0) return;
-        if (whole(all)) {
+        if (isCut(all)) {
             bestRank = rank;
             bestMany = planMany.clone();
         }
